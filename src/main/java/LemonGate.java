@@ -290,10 +290,11 @@ public final class LemonGate {
     }
 
     public int slate(int ab, int v) {
-        if (ab < 0 || !Slates.isName(ab / 10) || !Slates.isName(ab % 10) || ab / 10 == ab % 10 || !isWithin(v, 0, 999)) {
+        int a = ab / 10, b = ab % 10;
+        if (!Slates.isName(a) || !Slates.isName(b) || a == b || !isWithin(v, 0, 999)) {
             return BAD;
         }
-        return slates.write(ab / 10, ab % 10, v);
+        return slates.write(a, b, v);
     }
 
     public int owes(int name) {
@@ -392,7 +393,7 @@ public final class LemonGate {
         if (from.isEmpty() || to.isEmpty()) {
             return NOTHING_THERE;
         }
-        if (!from.isRowOf(to.sort) || !to.isRowOf(from.sort)) {
+        if (!from.isRowOf(to.sort)) {
             return OTHER_KIND;
         }
         if (!from.hasPlaces(i, n) || !to.hasPlaces(j, n)) {

@@ -334,6 +334,14 @@ public final class DaysTest {
             }
             D.due("no more than the seed", least <= seed ? 1 : 0, 1);
         }
+        x.mend(6, 12);
+        x.mend(3, 50);
+        Due.tell(x, 1, "12");
+        D.due("by the law as it is now", x.seeded(1), NOT);
+        Due.tell(x, 1, "5");
+        x.mend(3, 10);
+        x.mend(6, 0);
+        D.due("by the law as it is now", x.seeded(1) >= 0 ? 1 : 0, 1);
         x.put(1, 0, 4);
         D.due("by none", x.seeded(1), NOT);
         x.row(1, 1, 0);

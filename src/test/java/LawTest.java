@@ -47,7 +47,9 @@ public final class LawTest {
         D.due("120 bytes", longest.length(), 120);
         D.due("all of the tape", Due.tell(x, 0, longest), 1);
         D.due("taste", x.taste(0, 0, 0), 1);
-        D.due("119 minuses", Due.tell(x, 0, "1-".repeat(60)), -220);
+        D.due("120 bytes, each a step", Due.tell(x, 0, "!" + "0+0-".repeat(29) + "0+1"), 1);
+        D.due("taste", x.taste(0, 0, 0), 2);
+        D.due("minuses without an end", Due.tell(x, 0, "1-".repeat(60)), -220);
         D.due("60 lines", Due.tell(x, 0, "0?1;".repeat(29) + "0?1;"), -220);
         D.due("30 lines", Due.tell(x, 0, "0?1;".repeat(29) + "4"), 1);
         D.due("taste", x.taste(0, 0, 0), 4);
@@ -157,7 +159,12 @@ public final class LawTest {
         x.heat(4, 34);
         D.due("3 + 6 - 2", x.taste(4, 0, 1), 7);
         D.due("sour: 0 + 6 - 2", x.taste(4, 8, 1), 4);
+        D.due("the last quarter at the last age: 0 + 4 - 2", x.taste(31, 32, 1), 2);
+        x.mend(3, 29);
+        D.due("3 + 6 - 7", x.taste(4, 0, 1), 2);
         x.mend(4, 23);
+        D.due("3 + 6 - 7 + 5", x.taste(4, 0, 1), 7);
+        x.mend(3, 10);
         D.due("3 + 6 - 2 + 5", x.taste(4, 0, 1), 12);
         x.mend(4, 50);
         D.due("at most 12", x.taste(4, 0, 1), 12);

@@ -52,6 +52,9 @@ public final class QuartersTest {
         D.due("of(105)", x.of(105), 2);
         D.due("of(106)", x.of(106), 40);
         D.due("of(107)", x.of(107), 20);
+        D.due("no more than n", x.heats(0, 0, 1702), 2);
+        D.due("of(118)", x.of(118), 2);
+        D.due("of(119)", x.of(119), 20);
         D.due("heats(0, 0, 3101)", x.heats(0, 0, 3101), 1);
         D.due("of(131)", x.of(131), 1);
     }

@@ -62,6 +62,11 @@ public final class SharesTest {
         shared(x, 0, 1, 25, 1);
         shared(x, 1, 1, 100, 3);
         shared(x, 2, 1, 125, 3);
+        x.minutes(0, 0);
+        x.minutes(1, 0);
+        x.minutes(2, 1);
+        shared(x, 2, 1, 100, 1);
+        shared(x, 0, 1, 0, 1);
         x.brings(7, 999);
         x.minutes(0, 600);
         x.minutes(1, 600);
@@ -114,6 +119,8 @@ public final class SharesTest {
         D.due("wiped", x.wiped(), 0);
         D.due("slate(1, 30)", x.slate(1, 30), 0);
         D.due("slate(1, 20)", x.slate(1, 20), 30);
+        D.due("slate(1, 0)", x.slate(1, 0), 20);
+        D.due("slate(1, 20)", x.slate(1, 20), 0);
         D.due("slate(10, 50)", x.slate(10, 50), 0);
         D.due("slate(52, 999)", x.slate(52, 999), 0);
         int[] owed = {-30, 30, -999, 0, 0, 999};

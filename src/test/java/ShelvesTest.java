@@ -148,6 +148,11 @@ public final class ShelvesTest {
         D.due("nothing", x.taken(0, 0), -11);
         x.row(0, 0, 1);
         D.due("a row", x.taken(0, 0), -12);
+        x.body(0);
+        x.keep(0, 0);
+        x.row(0, 0, 1);
+        D.due("a row for a glass", x.taken(0, 0), -12);
+        x = new LemonGate();
         for (int kind = 0; kind < 8; kind++) {
             x.body(kind);
             x.keep(0, kind);
