@@ -127,17 +127,6 @@ public final class DaysTest {
         totals(x, 0, 0, 32, 0, 8, 4, 48, -48);
     }
 
-    /** The draws of a seed: z and its value of twelve. */
-    private static int[] drawn(int seed, int n) {
-        int[] drawn = new int[n];
-        long z = seed;
-        for (int i = 0; i < n; i++) {
-            z = z * 1103515245L + 12345L & 0xffffffffL;
-            drawn[i] = (int) ((z >> 8) % 12);
-        }
-        return drawn;
-    }
-
     private static void draws() {
         for (int seed : new int[] {0, 1, 5, -1, Integer.MIN_VALUE, Integer.MAX_VALUE, 123456789}) {
             for (int buys = 0; buys <= 12; buys++) {
@@ -147,7 +136,7 @@ public final class DaysTest {
                 x.mend(5, 32);
                 x.mend(6, buys);
                 x.day(seed);
-                int[] drawn = drawn(seed, 96);
+                int[] drawn = Draws.of(seed, 96);
                 int sold = 0, drunk = 0;
                 for (int quarter = 0; quarter < 32; quarter++) {
                     int here = (drawn[3 * quarter] < buys ? 1 : 0) + (drawn[3 * quarter + 1] < buys ? 1 : 0);

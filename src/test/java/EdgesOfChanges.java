@@ -107,18 +107,38 @@ final class EdgesOfChanges {
         said.due("no more", x.redo(), STATE);
         said.due("the price", x.of(3), 50);
         said.due("the boy's", x.of(4), 1);
-        x.undo();
-        x.undo();
-        x.mend(5, 9);
-        said.due("38 and one more", x.count(2), 39);
-        x.mend(6, 9);
-        x.mend(7, 9);
-        x.mend(7, 8);
-        said.due("40 again", x.count(2), 40);
-        for (int left = 39; left >= 0; left--) {
-            said.due("undo()", x.undo(), left);
+        mostOfManyKept();
+    }
+
+    private void mostOfManyKept() {
+        LemonGate x = new LemonGate();
+        int[][] changes = new int[43][];
+        for (int n = 0; n < changes.length; n++) {
+            int what = n % 8;
+            changes[n] = new int[] {what, x.of(what), 1 + n / 8 + what % 3 * 3};
+            changes[n][2] += changes[n][2] == changes[n][1] ? 1 : 0;
+            x.mend(what, changes[n][2]);
+            said.due("change " + n, x.count(2), Math.min(n + 1, 40));
         }
-        said.due("two more are not kept", x.of(3), 13);
+        for (int n = 42; n >= 3; n--) {
+            said.due("undo()", x.undo(), n - 3);
+            said.due("as before change " + n, x.of(changes[n][0]), changes[n][1]);
+        }
+        said.due("three are not kept", x.undo(), STATE);
+        for (int n = 0; n < 3; n++) {
+            said.due("as behind change " + n, x.of(n), changes[n][2]);
+        }
+        for (int n = 3; n <= 42; n++) {
+            said.due("redo()", x.redo(), 42 - n);
+            said.due("as behind change " + n, x.of(changes[n][0]), changes[n][2]);
+        }
+        x.undo();
+        x.undo();
+        x.mend(3, 50);
+        said.due("38 and one more", x.count(2), 39);
+        x.mend(3, 49);
+        x.mend(3, 48);
+        said.due("40 again", x.count(2), 40);
     }
 
     private void imageKeeps() {

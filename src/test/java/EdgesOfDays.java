@@ -44,25 +44,6 @@ final class EdgesOfDays {
         return x;
     }
 
-    /** The draws of a seed, each of twelve. */
-    private static int[] drawn(int seed, int n) {
-        int[] drawn = new int[n];
-        long z = seed;
-        for (int i = 0; i < n; i++) {
-            z = z * 1103515245L + 12345L & 0xffffffffL;
-            drawn[i] = (int) ((z >> 8) % 12);
-        }
-        return drawn;
-    }
-
-    private static int howManyBelow(int[] drawn, int bound) {
-        int n = 0;
-        for (int d : drawn) {
-            n += d < bound ? 1 : 0;
-        }
-        return n;
-    }
-
     /** SOLD, TAKEN, DRUNK, POURED, LEFT, MADE, COST, GAIN. */
     private void told(LemonGate x, String day, int... want) {
         for (int what = 0; what < want.length; what++) {
@@ -73,7 +54,7 @@ final class EdgesOfDays {
     private void draws() {
         said.says(0, "A DAY by a SEED (z = z * 1103515245 + 12345, an int, ahead of each draw; SEED at first)");
         for (int seed : SEEDS) {
-            int first = drawn(seed, 1)[0];
+            int first = Draws.of(seed, 1)[0];
             LemonGate x = gate(0, "q=0?" + first);
             x.flow(0, 0, 1);
             said.due("seed " + seed + ", a draw that is not below", x.day(seed), 0);
@@ -85,7 +66,7 @@ final class EdgesOfDays {
             for (int little = 0; little <= 12; little++) {
                 x.mend(LITTLE, little);
                 x.day(seed);
-                said.due("seed " + seed + ", a draw a quarter", x.told(2), howManyBelow(drawn(seed, 32), little));
+                said.due("seed " + seed + ", a draw a quarter", x.told(2), Draws.howManyBelow(Draws.of(seed, 32), little));
             }
         }
     }
@@ -148,8 +129,8 @@ final class EdgesOfDays {
             for (int buys = 0; buys <= 12; buys++) {
                 LemonGate x = gate(9, "q<2?" + buys);
                 x.mend(SOUR, 32);
-                said.due("seed " + seed + ", " + buys + " of twelve", x.day(seed), soldTo(drawn(seed, 19), buys));
-                said.due("in quarter 0", x.told(100), howManyBelow(drawn(seed, 9), buys));
+                said.due("seed " + seed + ", " + buys + " of twelve", x.day(seed), soldTo(Draws.of(seed, 19), buys));
+                said.due("in quarter 0", x.told(100), Draws.howManyBelow(Draws.of(seed, 9), buys));
             }
         }
         LemonGate x = gate(9, "12");
@@ -183,7 +164,7 @@ final class EdgesOfDays {
 
     // nine passers, the little one's draw, nine passers
     private static int soldTo(int[] drawn, int buys) {
-        return howManyBelow(drawn, buys) - (drawn[9] < buys ? 1 : 0);
+        return Draws.howManyBelow(drawn, buys) - (drawn[9] < buys ? 1 : 0);
     }
 
     private void littleOne() {
@@ -420,7 +401,7 @@ final class EdgesOfDays {
     /** The least seed whose first draw is below a bound, or is not. */
     private static int leastSeed(int bound, boolean isBelow) {
         for (int seed = 0; seed <= 99; seed++) {
-            if (drawn(seed, 1)[0] < bound == isBelow) {
+            if (Draws.of(seed, 1)[0] < bound == isBelow) {
                 return seed;
             }
         }

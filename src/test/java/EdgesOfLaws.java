@@ -58,6 +58,11 @@ final class EdgesOfLaws {
         said.due("law of 120 bytes", x.law(0), 1);
         said.due("taste", x.taste(0, 0, 0), 1);
         said.due("it is empty then", x.feed('0'), 1);
+        x = new LemonGate();
+        said.due("law of 120 bytes of a sign each", Due.tell(x, 0, "!" + "0+0-".repeat(29) + "0+1"), 1);
+        said.due("taste", x.taste(0, 0, 0), 2);
+        said.due("law of 120 bytes again", Due.tell(x, 1, "!" + "0+0-".repeat(29) + "0+2"), 1);
+        said.due("buys", x.taste(0, 0, 1), 3);
     }
 
     private void lines() {
@@ -261,6 +266,16 @@ final class EdgesOfLaws {
         gives("!6", 0);
         gives("!-6", 0);
         gives("!0", 1);
+        // what gives 0 gives neither less nor more
+        String[] zeros = {"(2<2)", "(3<2)", "(2=3)", "(2>2)", "(2>3)", "(0|0)", "(5&0)", "(0&5)", "!5", "(7/0)", "(7%0)"};
+        for (String zero : zeros) {
+            gives("5+" + zero, 5);
+            gives("5-" + zero, 5);
+        }
+        String[] ones = {"(2<3)", "(3=3)", "(3>2)", "(5|0)", "(0|5)", "(5&7)", "!0"};
+        for (String one : ones) {
+            gives("5+" + one, 6);
+        }
         gives("1|1/0", 1);
         gives("0&1/0", 0);
     }
