@@ -27,17 +27,17 @@ final class Said {
         }
     }
 
-    private static String between(String text, String from, String to) {
+    static String between(String text, String from, String to) {
         int begin = text.indexOf(from);
         if (begin < 0) {
-            throw new IllegalStateException("the document does not hold " + from);
+            throw new IllegalStateException("nothing holds " + from);
         }
         int end = text.indexOf(to, begin + from.length());
         return text.substring(begin + from.length(), end < 0 ? text.length() : end);
     }
 
     // rules of signs and frames around a block are none of the words
-    private static String plain(String text) {
+    static String plain(String text) {
         return text.replaceAll("```(text)?|=+ \\d ", " ").replaceAll("\\s+", " ").trim();
     }
 
